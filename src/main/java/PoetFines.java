@@ -522,16 +522,13 @@ public final class PoetFines {
 
         void scan(int bytes) {
             int length = Math.min(bytes, TAPE);
+            int end = 0;
             many = 0;
             at = 0;
-            int k = 0;
-            while (k < length) {
-                if (tape[k] == 32 || tape[k] == 10) {
-                    k++;
-                } else {
-                    int end = endOf(k, length);
+            for (int k = 0; k < length; k++) {
+                if (k >= end && tape[k] != 32 && tape[k] != 10) {
+                    end = endOf(k, length);
                     addToken(k, end);
-                    k = end;
                 }
             }
             kinds[many] = END;
@@ -840,19 +837,17 @@ public final class PoetFines {
                 refuse(MISPLACED);
             } else {
                 tokens.advance();
-                takeInner(around + 1);
+                if (around < MOST_AROUND) {
+                    takeLevel(ORS, around + 1);
+                } else {
+                    refuse(couldBePart() ? TOO_MUCH : MISPLACED);
+                }
                 takeSign(')');
             }
         }
 
-        private void takeInner(int around) {
-            if (around <= MOST_AROUND) {
-                takeLevel(ORS, around);
-            } else if (tokens.kind() == Tokens.NUMBER || tokens.kind() == Tokens.WORD || tokens.isSign('(')) {
-                refuse(TOO_MUCH);
-            } else {
-                refuse(MISPLACED);
-            }
+        private boolean couldBePart() {
+            return tokens.kind() == Tokens.NUMBER || tokens.kind() == Tokens.WORD || tokens.isSign('(');
         }
 
         private void takeValue() {
