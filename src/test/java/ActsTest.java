@@ -75,6 +75,25 @@ public final class ActsTest {
         x = Checks.town("person 0 2 0 0;poet 0 0 9;fines 15;");
         Checks.due(x, 1, "years", 1);
         Checks.due(x, 9, "poet", 0, 3);
+        // the last of four poets and of eight people, with another purse, line and jail of one's own
+        x = Checks.town("person 0 0 0 0;".repeat(7) + "person 3 0 0 4;" + "poet 5 0 0 0 0;".repeat(3)
+            + "poet 1 1 9 2 7 1 9;buys 0;");
+        Checks.due(x, 1, "years", 1);
+        Checks.due(x, 1, "poet", 3, 2);
+        Checks.due(x, 128, "poet", 3, 4);
+        Checks.due(x, 2, "years", 1);
+        Checks.due(x, 3, "poet", 3, 3);
+        Checks.due(x, 2, "poet", 3, 2);
+        Checks.due(x, 0, "poet", 0, 2);
+        Checks.due(x, 8, "count", 8);
+        Checks.due(x, 127, "count", 7);
+        Checks.due(x, 4, "person", 7, 0);
+        Checks.due(x, -1, "pardon", 0);
+        Checks.due(x, 2, "burn", 3);
+        Checks.due(x, 0, "poet", 3, 2);
+        Checks.due(x, 3, "pardon", 3);
+        Checks.due(x, 0, "count", 8);
+        Checks.due(x, 5, "poet", 2, 0);
         // scars end at 99
         x = Checks.town("person 0 9 0 0;poet 0 0 9;fines 0;");
         Checks.due(x, 10, "years", 10);

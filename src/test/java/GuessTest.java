@@ -67,6 +67,10 @@ public final class GuessTest {
         told(x, 27, 0, 1);
         x.feel(0, 19, false);
         told(x, 0, -1, 0);
+        // one by which it is all that counts
+        x = Checks.town("person 0 0 0 0;poet 9 2 1;hits true;fines 0;");
+        x.feel(0, 5, true);
+        told(x, 9, 21, 0);
         told(new PoetFines(), 0, -1, 1);
         Checks.due(x, Checks.NO_SUCH, "truths", 3);
         Checks.due(x, Checks.NO_SUCH, "truths", -1);
@@ -98,6 +102,19 @@ public final class GuessTest {
         x.forget();
         x.feel(0, 6, false);
         Checks.due(x, 1, "listen", 0);
+        Checks.due(x, 10, "listen", 1);
+        // the last of eight: five times each number, for the others 0 alone as soon as they felt nothing
+        String seven = "person 0 0 0 0;".repeat(7);
+        x = Checks.town(seven + "person 0 5 0 0;poet 0 0 9;fines 0;");
+        Checks.due(x, 0, "listen", 0);
+        Checks.due(x, 10, "listen", 1);
+        for (int person = 0; person < 7; person++) {
+            x.feel(person, 1, false);
+        }
+        Checks.due(x, 7, "listen", 0);
+        Checks.due(x, 10, "listen", 1);
+        // many scars: 45 and five times each number
+        x = Checks.town("person 0 0 0 0;poet 0 0 9;poet 0 1 0;fines 0;hits depth+true;");
         Checks.due(x, 10, "listen", 1);
         Checks.due(new PoetFines(), -1, "listen", 0);
         Checks.due(new PoetFines(), 0, "listen", 1);
