@@ -734,8 +734,9 @@ public final class PoetFines {
         }
 
         private int takeTopic() {
-            if (tokens.kind() == Tokens.NUMBER && tokens.number() >= law.topics) {
-                // the document: such a topic is unknown, however great
+            boolean isNumber = tokens.kind() == Tokens.NUMBER && tokens.length() <= MOST_DIGITS;
+            // one of more digits is too much as well as unknown, and the lesser fault counts
+            if (isNumber && tokens.number() >= law.topics) {
                 refuse(UNKNOWN);
                 return 0;
             }

@@ -261,11 +261,11 @@ final class Model {
             java.math.BigInteger n = new java.math.BigInteger(tokens.peek().text());
             boolean fits = n.compareTo(java.math.BigInteger.valueOf(least)) >= 0
                     && n.compareTo(java.math.BigInteger.valueOf(most)) <= 0;
-            if (!fits) {
-                throw at(fault);
-            }
             if (tokens.peek().text().length() > 4) {
                 throw at(2);
+            }
+            if (!fits) {
+                throw at(fault);
             }
             tokens.pop();
             return n.intValue();

@@ -133,6 +133,11 @@ public final class TextTest {
         reads("poet 100 0 1;", 2, 5);
         reads("poet 1 0 10;", 2, 9);
         reads("poet 1 00000 1;", 2, 7);
+        reads("poet 1 00003 1;", 2, 7);
+        reads("poet 1 12345 1;", 2, 7);
+        reads("poet 1 12345" + (char) 0, 2, 7);
+        reads("poet 1 99999999999999999999 1;", 2, 7);
+        reads("poet 1 0 1 10000 1;", 2, 11);
         reads("poet 1" + " 0 1".repeat(6) + ";", 0, -1);
         reads("poet 1" + " 0 1".repeat(6) + " 0 1;", 2, 31);
         reads("poet 1" + " 0 1".repeat(6) + " 9 1;", 2, 31);
@@ -177,7 +182,9 @@ public final class TextTest {
         reads("topics 2;poet 1 0 1 2 1;", 3, 20);
         reads("topics 4;poet 1 3 1;", 0, -1);
         reads("poet 1 9999 1;", 3, 7);
-        reads("poet 1 12345 1;", 3, 7);
+        reads("poet 1 0004 1;", 3, 7);
+        reads("poet 1 0 1 9999", 3, 11);
+        reads("topics 2;poet 1 2", 3, 16);
         reads("hits 1;hits 1;", 5, 7);
         reads("hits 1;fines 1;buys 1;fines 1;", 5, 22);
         reads("buys 1;buys", 5, 7);
