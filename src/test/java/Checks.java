@@ -35,6 +35,58 @@ final class Checks {
         return (bytes[k] & 255) << 24 | (bytes[k + 1] & 255) << 16 | (bytes[k + 2] & 255) << 8 | bytes[k + 3] & 255;
     }
 
+    /** Reads a text on a new object: the fault that is due, and its place. */
+    static void reads(String text, int fault, int place) {
+        PoetFines x = new PoetFines();
+        int n = load(x, text);
+        same("state of " + text, answer(x, "state", n), fault);
+        same("fault of " + text, answer(x, "fault"), place);
+    }
+
+    /** All that can be seen without asking ahead, but STATUS and the latest fault: 143 calls at most. */
+    static String facts(PoetFines x) {
+        StringBuilder all = new StringBuilder("count");
+        for (int what = 0; what < 12; what++) {
+            all.append(' ').append(x.count(what));
+        }
+        int topics = x.count(0);
+        int people = x.count(1);
+        int poets = x.count(2);
+        for (int p = 0; p < people; p++) {
+            all.append("; person");
+            for (int what = 0; what < 10 + topics; what = what == 2 ? 10 : what + 1) {
+                all.append(' ').append(x.person(p, what));
+            }
+        }
+        for (int p = 0; p < poets; p++) {
+            all.append("; poet");
+            for (int what = 0; what < 5; what++) {
+                all.append(' ').append(x.poet(p, what));
+            }
+            int lines = x.poet(p, 1);
+            for (int l = 0; l < lines; l++) {
+                all.append(", ").append(x.line(p, l, 0)).append(' ').append(x.line(p, l, 1));
+            }
+        }
+        return all.toString();
+    }
+
+    /** What a call answers that stands in one row: its name, and numbers, true or false behind it. */
+    static Object ask(PoetFines x, String call) {
+        String[] words = call.split(" ");
+        Object[] args = new Object[words.length - 1];
+        for (int k = 0; k < args.length; k++) {
+            String word = words[k + 1];
+            args[k] = word.matches("true|false") ? (Object) word.equals("true") : (Object) Integer.parseInt(word);
+        }
+        return answer(x, words[0], args);
+    }
+
+    /** Asks a call that stands in one row. */
+    static void due(PoetFines x, Object want, String call) {
+        same(call, ask(x, call), want);
+    }
+
     /** Calls the method and notes an answer other than the one that is due. */
     static void due(PoetFines x, Object want, String name, Object... args) {
         same(name + java.util.Arrays.toString(args), answer(x, name, args), want);

@@ -55,140 +55,140 @@ public final class TextTest {
     }
 
     private static void tokens() {
-        reads("", 0, -1);
-        reads(" \n ", 0, -1);
-        reads("topics 2;", 0, -1);
-        reads("\n topics\n0002 ;person05 0 9;poet99 1 0;", 0, -1);
-        reads("hits((1));fines(1)+2;buys not(1);", 0, -1);
-        reads("topics 4;person 99 0 1 2 3;poet 0 3 9 2 8 1 7 0 6 0 0 3 3;", 0, -1);
-        reads(EIGHT + FOUR + "buys 1;fines 1;hits 1;", 0, -1);
-        reads("person\t1 2 3 4;", 1, 6);
-        reads("Person 1 2 3 4;", 1, 0);
-        reads("person 1,2 3 4;", 1, 8);
-        reads("person 1 2 3 4;" + (char) 233, 1, 15);
-        reads("person 1 2 3 4;" + (char) 0, 1, 15);
-        reads("persons 1 2 3 4;", 1, 0);
-        reads("hits 1and2or3;", 0, -1);
+        Checks.reads("", 0, -1);
+        Checks.reads(" \n ", 0, -1);
+        Checks.reads("topics 2;", 0, -1);
+        Checks.reads("\n topics\n0002 ;person05 0 9;poet99 1 0;", 0, -1);
+        Checks.reads("hits((1));fines(1)+2;buys not(1);", 0, -1);
+        Checks.reads("topics 4;person 99 0 1 2 3;poet 0 3 9 2 8 1 7 0 6 0 0 3 3;", 0, -1);
+        Checks.reads(EIGHT + FOUR + "buys 1;fines 1;hits 1;", 0, -1);
+        Checks.reads("person\t1 2 3 4;", 1, 6);
+        Checks.reads("Person 1 2 3 4;", 1, 0);
+        Checks.reads("person 1,2 3 4;", 1, 8);
+        Checks.reads("person 1 2 3 4;" + (char) 233, 1, 15);
+        Checks.reads("person 1 2 3 4;" + (char) 0, 1, 15);
+        Checks.reads("persons 1 2 3 4;", 1, 0);
+        Checks.reads("hits 1and2or3;", 0, -1);
     }
 
     private static void misplaced() {
-        reads("topics", 1, 6);
-        reads("topics ;", 1, 7);
-        reads("topics 2", 1, 8);
-        reads("topics 2  ", 1, 10);
-        reads("topics 2 2;", 1, 9);
-        reads("person 1 2 3 4;topics 2;", 1, 15);
-        reads("5;", 1, 0);
-        reads(";", 1, 0);
-        reads("12345;", 1, 0);
-        reads("person 1 2 3 4;;", 1, 15);
-        reads("person 1 2 3 4", 1, 14);
-        reads("person 1 2 3 4 \n", 1, 16);
-        reads("person 1 2 3;", 1, 12);
-        reads("person 1 2 3 4 5;", 1, 15);
-        reads("person 1 2 3 4 55555;", 1, 15);
-        reads("topics 2;person 1 2 3 4;", 1, 22);
-        reads("person x 2 3 4;", 1, 7);
-        reads("poet;", 1, 4);
-        reads("poet 1;", 1, 6);
-        reads("poet 1 0;", 1, 8);
-        reads("poet 1 0 1 0;", 1, 12);
-        reads("poet 1 0 1 x;", 1, 11);
-        reads("hits", 1, 4);
-        reads("hits ;", 1, 5);
-        reads("hits )", 1, 5);
-        reads("hits -1;", 1, 5);
-        reads("hits #;", 1, 5);
-        reads("hits 1 2;", 1, 7);
-        reads("hits 1 23456;", 1, 7);
-        reads("hits 1 depth;", 1, 7);
-        reads("hits 1 not 2;", 1, 7);
-        reads("hits 1 foo;", 1, 7);
-        reads("hits 1<2<3;", 1, 8);
-        reads("hits 1=2=3;", 1, 8);
-        reads("hits 1<2=3;", 1, 8);
-        reads("hits (1;", 1, 7);
-        reads("hits (1", 1, 7);
-        reads("hits 1);", 1, 6);
-        reads("hits 1+;", 1, 7);
-        reads("hits 1*+2;", 1, 7);
-        reads("hits not;", 1, 8);
-        reads("hits ();", 1, 6);
-        reads("hits ((((((;", 1, 11);
-        reads("hits (((((()", 1, 11);
-        reads("hits ((((((+", 1, 11);
-        reads("hits ((((((", 1, 11);
-        reads("hits 1 or;", 1, 9);
+        Checks.reads("topics", 1, 6);
+        Checks.reads("topics ;", 1, 7);
+        Checks.reads("topics 2", 1, 8);
+        Checks.reads("topics 2  ", 1, 10);
+        Checks.reads("topics 2 2;", 1, 9);
+        Checks.reads("person 1 2 3 4;topics 2;", 1, 15);
+        Checks.reads("5;", 1, 0);
+        Checks.reads(";", 1, 0);
+        Checks.reads("12345;", 1, 0);
+        Checks.reads("person 1 2 3 4;;", 1, 15);
+        Checks.reads("person 1 2 3 4", 1, 14);
+        Checks.reads("person 1 2 3 4 \n", 1, 16);
+        Checks.reads("person 1 2 3;", 1, 12);
+        Checks.reads("person 1 2 3 4 5;", 1, 15);
+        Checks.reads("person 1 2 3 4 55555;", 1, 15);
+        Checks.reads("topics 2;person 1 2 3 4;", 1, 22);
+        Checks.reads("person x 2 3 4;", 1, 7);
+        Checks.reads("poet;", 1, 4);
+        Checks.reads("poet 1;", 1, 6);
+        Checks.reads("poet 1 0;", 1, 8);
+        Checks.reads("poet 1 0 1 0;", 1, 12);
+        Checks.reads("poet 1 0 1 x;", 1, 11);
+        Checks.reads("hits", 1, 4);
+        Checks.reads("hits ;", 1, 5);
+        Checks.reads("hits )", 1, 5);
+        Checks.reads("hits -1;", 1, 5);
+        Checks.reads("hits #;", 1, 5);
+        Checks.reads("hits 1 2;", 1, 7);
+        Checks.reads("hits 1 23456;", 1, 7);
+        Checks.reads("hits 1 depth;", 1, 7);
+        Checks.reads("hits 1 not 2;", 1, 7);
+        Checks.reads("hits 1 foo;", 1, 7);
+        Checks.reads("hits 1<2<3;", 1, 8);
+        Checks.reads("hits 1=2=3;", 1, 8);
+        Checks.reads("hits 1<2=3;", 1, 8);
+        Checks.reads("hits (1;", 1, 7);
+        Checks.reads("hits (1", 1, 7);
+        Checks.reads("hits 1);", 1, 6);
+        Checks.reads("hits 1+;", 1, 7);
+        Checks.reads("hits 1*+2;", 1, 7);
+        Checks.reads("hits not;", 1, 8);
+        Checks.reads("hits ();", 1, 6);
+        Checks.reads("hits ((((((;", 1, 11);
+        Checks.reads("hits (((((()", 1, 11);
+        Checks.reads("hits ((((((+", 1, 11);
+        Checks.reads("hits ((((((", 1, 11);
+        Checks.reads("hits 1 or;", 1, 9);
     }
 
     private static void tooMuch() {
-        reads("topics 1;", 2, 7);
-        reads("topics 5;", 2, 7);
-        reads("topics 00002;", 2, 7);
-        reads("person 100 0 0 0;", 2, 7);
-        reads("person 99999999999999999999 0 0 0;", 2, 7);
-        reads("person 00001 0 0 0;", 2, 7);
-        reads("person 0001 0 0 0;", 0, -1);
-        reads("person 1 0 0 10;", 2, 13);
-        reads("poet 100 0 1;", 2, 5);
-        reads("poet 1 0 10;", 2, 9);
-        reads("poet 1 00000 1;", 2, 7);
-        reads("poet 1 00003 1;", 2, 7);
-        reads("poet 1 12345 1;", 2, 7);
-        reads("poet 1 12345" + (char) 0, 2, 7);
-        reads("poet 1 99999999999999999999 1;", 2, 7);
-        reads("poet 1 0 1 10000 1;", 2, 11);
-        reads("poet 1" + " 0 1".repeat(6) + ";", 0, -1);
-        reads("poet 1" + " 0 1".repeat(6) + " 0 1;", 2, 31);
-        reads("poet 1" + " 0 1".repeat(6) + " 9 1;", 2, 31);
-        reads("poet 1" + " 0 1".repeat(6) + " 99999 1;", 2, 31);
-        reads("poet 1" + " 0 1".repeat(6) + " x;", 1, 31);
-        reads(EIGHT + "person 1 1 1 1;", 2, 120);
-        reads(EIGHT + "person", 2, 120);
-        reads(FOUR + "poet 1 0 1;", 2, 44);
-        reads("hits 9999;", 0, -1);
-        reads("hits 10000;", 2, 5);
-        reads("hits 00001;", 2, 5);
-        reads("hits (((((1)))));", 0, -1);
-        reads("hits ((((((1))))));", 2, 11);
-        reads("hits (((((((1)))))));", 2, 11);
-        reads("hits ((((((depth))))));", 2, 11);
-        reads("hits ((((((foo))))));", 2, 11);
-        reads("hits ((((((not 1))))));", 2, 11);
-        reads("hits (((((1)))))+(((((2)))));", 0, -1);
-        reads("hits " + "not ".repeat(6) + "1;", 0, -1);
-        reads("hits " + "not ".repeat(7) + "1;", 2, 29);
-        reads("hits " + "not ".repeat(6) + "(" + "not ".repeat(6) + "1);", 0, -1);
-        reads("hits not 1 and not 1 and not 1 and not 1 and not 1 and not 1 and not 1;", 0, -1);
+        Checks.reads("topics 1;", 2, 7);
+        Checks.reads("topics 5;", 2, 7);
+        Checks.reads("topics 00002;", 2, 7);
+        Checks.reads("person 100 0 0 0;", 2, 7);
+        Checks.reads("person 99999999999999999999 0 0 0;", 2, 7);
+        Checks.reads("person 00001 0 0 0;", 2, 7);
+        Checks.reads("person 0001 0 0 0;", 0, -1);
+        Checks.reads("person 1 0 0 10;", 2, 13);
+        Checks.reads("poet 100 0 1;", 2, 5);
+        Checks.reads("poet 1 0 10;", 2, 9);
+        Checks.reads("poet 1 00000 1;", 2, 7);
+        Checks.reads("poet 1 00003 1;", 2, 7);
+        Checks.reads("poet 1 12345 1;", 2, 7);
+        Checks.reads("poet 1 12345" + (char) 0, 2, 7);
+        Checks.reads("poet 1 99999999999999999999 1;", 2, 7);
+        Checks.reads("poet 1 0 1 10000 1;", 2, 11);
+        Checks.reads("poet 1" + " 0 1".repeat(6) + ";", 0, -1);
+        Checks.reads("poet 1" + " 0 1".repeat(6) + " 0 1;", 2, 31);
+        Checks.reads("poet 1" + " 0 1".repeat(6) + " 9 1;", 2, 31);
+        Checks.reads("poet 1" + " 0 1".repeat(6) + " 99999 1;", 2, 31);
+        Checks.reads("poet 1" + " 0 1".repeat(6) + " x;", 1, 31);
+        Checks.reads(EIGHT + "person 1 1 1 1;", 2, 120);
+        Checks.reads(EIGHT + "person", 2, 120);
+        Checks.reads(FOUR + "poet 1 0 1;", 2, 44);
+        Checks.reads("hits 9999;", 0, -1);
+        Checks.reads("hits 10000;", 2, 5);
+        Checks.reads("hits 00001;", 2, 5);
+        Checks.reads("hits (((((1)))));", 0, -1);
+        Checks.reads("hits ((((((1))))));", 2, 11);
+        Checks.reads("hits (((((((1)))))));", 2, 11);
+        Checks.reads("hits ((((((depth))))));", 2, 11);
+        Checks.reads("hits ((((((foo))))));", 2, 11);
+        Checks.reads("hits ((((((not 1))))));", 2, 11);
+        Checks.reads("hits (((((1)))))+(((((2)))));", 0, -1);
+        Checks.reads("hits " + "not ".repeat(6) + "1;", 0, -1);
+        Checks.reads("hits " + "not ".repeat(7) + "1;", 2, 29);
+        Checks.reads("hits " + "not ".repeat(6) + "(" + "not ".repeat(6) + "1);", 0, -1);
+        Checks.reads("hits not 1 and not 1 and not 1 and not 1 and not 1 and not 1 and not 1;", 0, -1);
     }
 
     private static void unknownOrTwice() {
         for (String word : new String[] {"foo", "inches", "rhymes", "and", "or", "hits", "topics"}) {
-            reads("hits " + word + ";", 3, 5);
+            Checks.reads("hits " + word + ";", 3, 5);
         }
         for (String word : new String[] {"depth", "true", "person"}) {
-            reads("fines " + word + ";", 3, 6);
+            Checks.reads("fines " + word + ";", 3, 6);
         }
         for (String word : new String[] {"depth", "true", "inches", "rhymes"}) {
-            reads("buys " + word + ";", 3, 5);
+            Checks.reads("buys " + word + ";", 3, 5);
         }
-        reads("hits scars+purse+before+year+depth+true;", 0, -1);
-        reads("fines scars+purse+before+year+inches+rhymes;", 0, -1);
-        reads("buys scars+purse+before+year;", 0, -1);
-        reads("hits 1+not 2;", 3, 7);
-        reads("hits 1<not 2;", 3, 7);
-        reads("hits 1*not;", 3, 7);
-        reads("poet 1 3 1;", 3, 7);
-        reads("topics 2;poet 1 0 1 2 1;", 3, 20);
-        reads("topics 4;poet 1 3 1;", 0, -1);
-        reads("poet 1 9999 1;", 3, 7);
-        reads("poet 1 0004 1;", 3, 7);
-        reads("poet 1 0 1 9999", 3, 11);
-        reads("topics 2;poet 1 2", 3, 16);
-        reads("hits 1;hits 1;", 5, 7);
-        reads("hits 1;fines 1;buys 1;fines 1;", 5, 22);
-        reads("buys 1;buys", 5, 7);
-        reads("person 100 0 0 0;poet x", 2, 7);
+        Checks.reads("hits scars+purse+before+year+depth+true;", 0, -1);
+        Checks.reads("fines scars+purse+before+year+inches+rhymes;", 0, -1);
+        Checks.reads("buys scars+purse+before+year;", 0, -1);
+        Checks.reads("hits 1+not 2;", 3, 7);
+        Checks.reads("hits 1<not 2;", 3, 7);
+        Checks.reads("hits 1*not;", 3, 7);
+        Checks.reads("poet 1 3 1;", 3, 7);
+        Checks.reads("topics 2;poet 1 0 1 2 1;", 3, 20);
+        Checks.reads("topics 4;poet 1 3 1;", 0, -1);
+        Checks.reads("poet 1 9999 1;", 3, 7);
+        Checks.reads("poet 1 0004 1;", 3, 7);
+        Checks.reads("poet 1 0 1 9999", 3, 11);
+        Checks.reads("topics 2;poet 1 2", 3, 16);
+        Checks.reads("hits 1;hits 1;", 5, 7);
+        Checks.reads("hits 1;fines 1;buys 1;fines 1;", 5, 22);
+        Checks.reads("buys 1;buys", 5, 7);
+        Checks.reads("person 100 0 0 0;poet x", 2, 7);
     }
 
     private static void faultKeepsAll() {
@@ -269,12 +269,5 @@ public final class TextTest {
     private static void worth(String rule, int inches) {
         PoetFines x = Checks.town("person 7 0 4 0;poet 30 1 8;hits " + rule + ";");
         Checks.due(x, inches, "probe", 0, 0, 1, 5);
-    }
-
-    private static void reads(String text, int fault, int place) {
-        PoetFines x = new PoetFines();
-        int n = Checks.load(x, text);
-        Checks.same("state of " + text, Checks.answer(x, "state", n), fault);
-        Checks.same("fault of " + text, Checks.answer(x, "fault"), place);
     }
 }
