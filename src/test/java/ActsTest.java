@@ -1,8 +1,5 @@
 /** Promises 9 to 15, 38 and 39: acts, how they are undone, the image. */
 public final class ActsTest {
-    private static final String BASE =
-        "topics 2;person 5 3 0;person 0 0 4;person 9 2 2;poet 4 0 5 1 3 0 0;poet 20 1 1;";
-
     public static void main(String[] args) {
         years();
         lastYear();
@@ -19,7 +16,7 @@ public final class ActsTest {
     }
 
     private static void years() {
-        PoetFines x = Checks.town(BASE);
+        PoetFines x = Checks.town(Checks.BASE);
         for (int many : new int[] {0, -1, 21, Integer.MAX_VALUE, Integer.MIN_VALUE}) {
             Checks.due(x, -1, "years", many);
         }
@@ -104,7 +101,7 @@ public final class ActsTest {
     }
 
     private static void burn() {
-        PoetFines x = Checks.town(BASE);
+        PoetFines x = Checks.town(Checks.BASE);
         Checks.due(x, 0, "burn", 0);
         Checks.due(x, 1, "burn", 0);
         Checks.due(x, 2, "burn", 0);
@@ -119,7 +116,7 @@ public final class ActsTest {
     }
 
     private static void rewrite() {
-        PoetFines x = Checks.town(BASE);
+        PoetFines x = Checks.town(Checks.BASE);
         Checks.due(x, 5, "rewrite", 0, 0, 2);
         Checks.due(x, 2, "line", 0, 0, 1);
         Checks.due(x, 2, "rewrite", 0, 0, 9);
@@ -135,7 +132,7 @@ public final class ActsTest {
     }
 
     private static void pardon() {
-        PoetFines x = Checks.town(BASE);
+        PoetFines x = Checks.town(Checks.BASE);
         Checks.due(x, -1, "pardon", 0);
         Checks.due(x, 2, "years", 2);
         Checks.due(x, 1, "pardon", 0);
@@ -147,7 +144,7 @@ public final class ActsTest {
     }
 
     private static void fill() {
-        PoetFines x = Checks.town(BASE);
+        PoetFines x = Checks.town(Checks.BASE);
         Checks.due(x, 5, "fill", 0, 99);
         Checks.due(x, 99, "fill", 0, 0);
         Checks.due(x, 0, "person", 0, 0);
@@ -161,7 +158,7 @@ public final class ActsTest {
     }
 
     private static void heal() {
-        PoetFines x = Checks.town(BASE);
+        PoetFines x = Checks.town(Checks.BASE);
         Checks.due(x, -1, "heal", 0);
         Checks.due(x, 1, "years", 1);
         Checks.due(x, 3, "heal", 0);
@@ -174,7 +171,7 @@ public final class ActsTest {
     }
 
     private static void undo() {
-        PoetFines x = Checks.town(BASE);
+        PoetFines x = Checks.town(Checks.BASE);
         Checks.due(x, -1, "undo");
         String first = facts(x);
         x.years(2);
@@ -205,7 +202,7 @@ public final class ActsTest {
     }
 
     private static void fortyActs() {
-        PoetFines x = Checks.town(BASE);
+        PoetFines x = Checks.town(Checks.BASE);
         for (int k = 1; k <= 45; k++) {
             Checks.due(x, k, "years", 1);
             Checks.due(x, Math.min(k, 40), "count", 9);
@@ -219,7 +216,7 @@ public final class ActsTest {
     }
 
     private static void image() {
-        PoetFines x = Checks.town(BASE);
+        PoetFines x = Checks.town(Checks.BASE);
         Checks.due(x, false, "restore");
         x.years(2);
         x.feel(1, 3, true);

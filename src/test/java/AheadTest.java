@@ -1,7 +1,5 @@
 /** Promises 16 to 20, 26 and 34 to 36: what is asked of years to come. */
 public final class AheadTest {
-    private static final String BASE =
-        "topics 2;person 5 3 0;person 0 0 4;person 9 2 2;poet 4 0 5 1 3 0 0;poet 20 1 1;";
     private static final String[] SPANS = {"then 0 # 0", "poetThen 0 # 0", "later # 0", "jailed 0 #", "into 0 0 #",
         "laureate #"};
 
@@ -20,7 +18,7 @@ public final class AheadTest {
     }
 
     private static void bounds() {
-        PoetFines x = Checks.town(BASE);
+        PoetFines x = Checks.town(Checks.BASE);
         for (String call : SPANS) {
             ask(x, call, Checks.WRONG, -1);
             ask(x, call, Checks.WRONG, 61);
@@ -58,8 +56,8 @@ public final class AheadTest {
 
     /** What is foreseen is what comes, and foreseeing changes nothing. */
     private static void thenAsActs() {
-        PoetFines x = Checks.town(BASE);
-        PoetFines y = Checks.town(BASE);
+        PoetFines x = Checks.town(Checks.BASE);
+        PoetFines y = Checks.town(Checks.BASE);
         for (int k = 0; k <= 3; k++) {
             for (int p = 0; p < 3; p++) {
                 for (int what = 0; what < 3; what++) {
@@ -84,7 +82,7 @@ public final class AheadTest {
     }
 
     private static void poetThen() {
-        PoetFines x = Checks.town(BASE);
+        PoetFines x = Checks.town(Checks.BASE);
         int[][] due = {{4, 0, 0, 0, 0, 0}, {1, 1, 0, 5, 2, 1}, {0, 2, 1, 9, 5, 2}, {0, 2, 0, 9, 5, 2}};
         for (int years = 0; years < due.length; years++) {
             for (int what = 0; what < 6; what++) {
@@ -135,7 +133,7 @@ public final class AheadTest {
     }
 
     private static void hurt() {
-        PoetFines x = Checks.town(BASE);
+        PoetFines x = Checks.town(Checks.BASE);
         Checks.due(x, 1, "hurt", 0, 0);
         Checks.due(x, 2, "hurt", 1, 0);
         Checks.due(x, 1, "hurt", 2, 0);
@@ -150,7 +148,7 @@ public final class AheadTest {
     }
 
     private static void later() {
-        PoetFines x = Checks.town(BASE);
+        PoetFines x = Checks.town(Checks.BASE);
         Checks.due(x, 2, "later", 0, 0);
         Checks.due(x, 0, "later", 0, 1);
         Checks.due(x, 0, "later", 0, 2);

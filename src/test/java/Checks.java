@@ -3,6 +3,9 @@ import java.lang.reflect.Method;
 
 /** What the project's tests share: calls by name with the answer that is due, and texts on the tape. */
 final class Checks {
+    /** A small state that many tests begin with. */
+    static final String BASE =
+        "topics 2;person 5 3 0;person 0 0 4;person 9 2 2;poet 4 0 5 1 3 0 0;poet 20 1 1;";
     static final String NO_SUCH = "throws.NoSuchElementException";
     static final String WRONG = "throws.IllegalArgumentException";
 

@@ -27,8 +27,14 @@ public final class FaceTest {
         "\\btoString\\b", "\\bgetMessage\\b", "\\bdouble\\b", "\\bfloat\\b", "\" \\+", "\\+ \"",
         "Math\\.(?!min\\(|max\\()", "\\bpackage \\b", "\\bstatic \\{"};
 
+    private static final String NOBODY = " count person poet line burn rewrite pardon fill heal then poetThen hurt later worst"
+        + " probe safe sonnet action readings best feel truths listen accidents game decades jailed into plaintiff ";
+    private static final String BEYOND = " state then poetThen later worst probe safe best accidents game decades jailed into"
+        + " laureate ";
+
     public static void main(String[] args) throws IOException {
         face();
+        thrown();
         members();
         source();
         Checks.end();
@@ -56,6 +62,21 @@ public final class FaceTest {
         for (Field f : c.getDeclaredFields()) {
             boolean mine = f.getName().equals("NONE");
             Checks.same(f.getName(), Modifier.isPrivate(f.getModifiers()), !mine);
+        }
+    }
+
+    /** The exceptions that the face declares. */
+    private static void thrown() {
+        for (Method m : PoetFines.class.getDeclaredMethods()) {
+            if (!Modifier.isPrivate(m.getModifiers())) {
+                String name = " " + m.getName() + " ";
+                List<Class<?>> declared = List.of(m.getExceptionTypes());
+                boolean nobody = NOBODY.contains(name);
+                boolean beyond = BEYOND.contains(name);
+                Checks.same(name, declared.contains(java.util.NoSuchElementException.class), nobody);
+                Checks.same(name, declared.contains(IllegalArgumentException.class), beyond);
+                Checks.same(name, declared.size(), (nobody ? 1 : 0) + (beyond ? 1 : 0));
+            }
         }
     }
 

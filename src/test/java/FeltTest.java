@@ -508,7 +508,8 @@ public final class FeltTest {
     private static void manyDecades() {
         String eight = "person 9 1 0 2 3;person 0 0 4 0 1;person 3 2 2 1 0;person 7 0 0 0 9;";
         String four = "poet 9 0 5 1 3 2 9 3 1 0 2 1 8;poet 0 1 9;poet 20 2 4 3 7;poet 5 3 3 0 0 1 1;";
-        for (int seed : new int[] {1, 2, -7, 99, Integer.MAX_VALUE, Integer.MIN_VALUE, 1 << 16, 12345, -12345}) {
+        for (int seed : new int[] {0, 1, -1, 5, -7, 77777, Integer.MAX_VALUE, Integer.MIN_VALUE, 1 << 16, 123456789}) {
+            decades(Checks.BASE, seed, 3, 2);
             decades("topics 4;" + eight + eight + four, seed, 8, 4);
             decades("topics 4;" + eight + "poet 3 0 7 1 2;", seed, 4, 1);
             decades("person 4 1 2 3;poet 2 0 9 1 9 2 9;poet 0 1 2;poet 7 0 9;", seed, 1, 3);

@@ -237,10 +237,14 @@ public final class ForeseenTest {
         Checks.due(x, 1, "count", 8);
         Checks.due(x, -1, "best", 1, 0);
         // less than now, but more than without: others sell all the time
-        x = Checks.town("person 9 1 0 0;poet 0 0 9;poet 99 0 9;fines 9*(1-before)+(scars=2)*3;buys before;");
+        x = Checks.town("person 9 1 0 0;poet 0 0 9;poet 9 0 9;poet 9 0 9;fines (year=0)*9*(purse<2)+(4<scars)*2;");
         Checks.due(x, 1, "years", 1);
         Checks.due(x, 1, "count", 8);
-        Checks.due(x, 18, "person", 0, 0);
+        Checks.due(x, 7, "person", 0, 0);
+        Checks.due(x, 5, "then", 0, 1, 0);
+        Checks.due(x, 0, "best", 1, 0);
+        Checks.due(x, 8, "pardon", 0);
+        Checks.due(x, 6, "then", 0, 1, 0);
         // pence of people alone, not their scars
         x = Checks.town("person 0 1 0 0;" + "person 0 0 0 0;".repeat(7) + "poet 0 0 9;buys 0;fines year=0;");
         Checks.due(x, 1, "years", 1);

@@ -1,8 +1,5 @@
 /** Promises 27 to 33: what is felt and what it tells, accidents, a game, decades by a seed. */
 public final class GuessTest {
-    private static final String BASE =
-        "topics 2;person 5 3 0;person 0 0 4;person 9 2 2;poet 4 0 5 1 3 0 0;poet 20 1 1;";
-
     public static void main(String[] args) {
         feel();
         truths();
@@ -15,7 +12,7 @@ public final class GuessTest {
     }
 
     private static void feel() {
-        PoetFines x = Checks.town(BASE);
+        PoetFines x = Checks.town(Checks.BASE);
         Checks.due(x, Checks.NO_SUCH, "feel", 3, 21, true);
         Checks.due(x, Checks.NO_SUCH, "feel", -1, 1, true);
         Checks.due(x, -1, "feel", 0, 0, true);
@@ -170,36 +167,9 @@ public final class GuessTest {
         Checks.due(x, Checks.WRONG, "game", 1, 1, 0);
     }
 
-    /** The same years as acts: drawn here, done one by one on another object. */
+    /** What is drawn is tested by FeltTest, against the same years as acts. */
     private static void decades() {
-        for (int seed : new int[] {5, 0, -1, 77777, Integer.MIN_VALUE, 123456789}) {
-            PoetFines x = Checks.town(BASE);
-            PoetFines y = Checks.town(BASE);
-            int hits = 0;
-            int s = seed;
-            for (int n = 0; n <= 60; n++) {
-                Checks.due(x, hits, "decades", seed, n, 0);
-                Checks.due(x, y.count(6), "decades", seed, n, 1);
-                Checks.due(x, y.count(4), "decades", seed, n, 2);
-                s = s * 1103515245 + 12345;
-                int event = (s >>> 16 & 32767) % 6;
-                if (event < 3) {
-                    s = s * 1103515245 + 12345;
-                    int who = (s >>> 16 & 32767) % (event == 1 ? 3 : 2);
-                    if (event == 0) {
-                        y.pardon(who);
-                    } else if (event == 1) {
-                        y.heal(who);
-                    } else {
-                        s = s * 1103515245 + 12345;
-                        y.rewrite(who, y.poet(who, 2), (s >>> 16 & 32767) % 10);
-                    }
-                }
-                y.years(1);
-                hits = y.person(0, 2) + y.person(1, 2) + y.person(2, 2);
-            }
-        }
-        PoetFines x = Checks.town(BASE);
+        PoetFines x = Checks.town(Checks.BASE);
         Checks.due(x, Checks.NO_SUCH, "decades", 1, 61, 3);
         Checks.due(x, Checks.NO_SUCH, "decades", 1, 1, -1);
         Checks.due(x, Checks.WRONG, "decades", 1, 61, 0);

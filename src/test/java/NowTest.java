@@ -1,8 +1,5 @@
 /** Promises 5 to 8, 21 to 25 and 37: what is asked of the state as it is now. */
 public final class NowTest {
-    private static final String BASE =
-        "topics 2;person 5 3 0;person 0 0 4;person 9 2 2;poet 4 0 5 1 3 0 0;poet 20 1 1;";
-
     public static void main(String[] args) {
         count();
         personPoetLine();
@@ -16,7 +13,7 @@ public final class NowTest {
     }
 
     private static void count() {
-        PoetFines x = Checks.town(BASE);
+        PoetFines x = Checks.town(Checks.BASE);
         int[] atFirst = {2, 3, 2, 0, 14, 24, 0, 7, 0, 0, 0, 0, 0, 0, 0};
         for (int what = 0; what < atFirst.length; what++) {
             Checks.due(x, atFirst[what], "count", what);
@@ -33,7 +30,7 @@ public final class NowTest {
     }
 
     private static void personPoetLine() {
-        PoetFines x = Checks.town(BASE);
+        PoetFines x = Checks.town(Checks.BASE);
         Checks.due(x, 9, "person", 2, 0);
         Checks.due(x, 0, "person", 2, 1);
         Checks.due(x, 0, "person", 2, 2);
@@ -91,7 +88,7 @@ public final class NowTest {
     }
 
     private static void probeAndSafe() {
-        PoetFines x = Checks.town(BASE);
+        PoetFines x = Checks.town(Checks.BASE);
         Checks.due(x, 3, "probe", 0, 0, 0, 9);
         Checks.due(x, 1, "probe", 0, 0, 0, 1);
         Checks.due(x, 4, "probe", 1, 1, 1, 9);
@@ -127,7 +124,7 @@ public final class NowTest {
         // all lines that hit, and none that hits nobody
         sonnet("person 0 5 3 2;poet 0 0 5 1 0 2 2 1 3;fines 0;", 10, 13);
         sonnet("poet 5 0 5;", 0, 0);
-        PoetFines x = Checks.town(BASE);
+        PoetFines x = Checks.town(Checks.BASE);
         Checks.due(x, 2, "sonnet", 1, 0);
         Checks.due(x, Checks.NO_SUCH, "sonnet", 2, 0);
         Checks.due(x, Checks.NO_SUCH, "sonnet", 0, 2);
@@ -154,7 +151,7 @@ public final class NowTest {
     }
 
     private static void readings() {
-        PoetFines x = Checks.town(BASE);
+        PoetFines x = Checks.town(Checks.BASE);
         rows(x, 4, 0, 1);
         Checks.due(x, Checks.NO_SUCH, "readings", 2);
         Checks.due(x, Checks.NO_SUCH, "readings", -2);

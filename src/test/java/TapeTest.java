@@ -2,9 +2,6 @@ import java.util.Random;
 
 /** Promises 2 to 4 and the text's bytes: the tape at empty and at full, each byte, what a text leaves behind. */
 public final class TapeTest {
-    private static final String BASE =
-        "topics 2;person 5 3 0;person 0 0 4;person 9 2 2;poet 4 0 5 1 3 0 0;poet 20 1 1;";
-
     public static void main(String[] args) {
         bytesComeHighestFirst();
         fullTape();
@@ -266,8 +263,8 @@ public final class TapeTest {
         PoetFines x = lived();
         Checks.due(x, -1, "years", 0);
         Checks.due(x, -1, "feel", 0, 0, true);
-        Checks.due(x, 0, "state", Checks.load(x, BASE));
-        PoetFines y = Checks.town(BASE);
+        Checks.due(x, 0, "state", Checks.load(x, Checks.BASE));
+        PoetFines y = Checks.town(Checks.BASE);
         Checks.same("as a new one", Checks.facts(x), Checks.facts(y));
         int[] status = {1, 1, 1};
         for (int k = 0; k < 3; k++) {
@@ -315,7 +312,7 @@ public final class TapeTest {
 
     /** Years, acts, an image, something felt and a refused text are behind this one. */
     private static PoetFines lived() {
-        PoetFines x = Checks.town(BASE + "hits (depth<true)+scars/9+1;fines inches+before;buys purse;");
+        PoetFines x = Checks.town(Checks.BASE + "hits (depth<true)+scars/9+1;fines inches+before;buys purse;");
         Checks.due(x, 2, "state", Checks.load(x, "topics 9;"));
         x.years(3);
         x.feel(0, 1, true);

@@ -3,8 +3,6 @@
  * and what is asked leaves no trace but STATUS.
  */
 public final class UndoTest {
-    private static final String BASE =
-        "topics 2;person 5 3 0;person 0 0 4;person 9 2 2;poet 4 0 5 1 3 0 0;poet 20 1 1;";
     private static final String[] ACTS = {"years 1", "burn 0", "rewrite 0 0 #", "fill 1 #", "years 20", "heal 0",
         "rewrite 1 0 #", "pardon 0", "fill 0 #", "years 2"};
     /** Each with what it answers in the town that has lived, and which STATUS it is; 0 without. */
@@ -138,8 +136,8 @@ public final class UndoTest {
     /** "YEARS go by (1 to 20)": twenty at once are one act, and as twenty of one each. */
     private static void yearsAtOnce() {
         for (int many = 1; many <= 20; many++) {
-            PoetFines x = Checks.town(BASE + "fines scars/5+inches;buys purse-before;");
-            PoetFines y = Checks.town(BASE + "fines scars/5+inches;buys purse-before;");
+            PoetFines x = Checks.town(Checks.BASE + "fines scars/5+inches;buys purse-before;");
+            PoetFines y = Checks.town(Checks.BASE + "fines scars/5+inches;buys purse-before;");
             Checks.due(x, many, "years", many);
             Checks.due(x, 1, "count", 9);
             for (int k = 1; k <= many; k++) {
@@ -156,7 +154,7 @@ public final class UndoTest {
     /** "ACTS (at most 40 are kept, the latest ones)": of every kind; "The last ACT is UNDONE: how many are left". */
     private static void fortyAreKept() {
         for (int acts : new int[] {39, 40, 41, 42, 79, 80, 81, 97}) {
-            PoetFines x = Checks.town(BASE);
+            PoetFines x = Checks.town(Checks.BASE);
             PoetFines[] shadow = new PoetFines[acts + 1];
             int done = 0;
             String[] row = new String[acts];
@@ -174,7 +172,7 @@ public final class UndoTest {
                 Checks.due(x, left, "count", 9);
                 if (left % 7 == 0) {
                     int first = acts - Math.min(acts, 40) + left;
-                    shadow[first] = Checks.town(BASE);
+                    shadow[first] = Checks.town(Checks.BASE);
                     for (int k = 0; k < first; k++) {
                         Checks.ask(shadow[first], row[k]);
                     }
@@ -189,7 +187,7 @@ public final class UndoTest {
 
     /** An act behind an undone one takes its place. */
     private static void lessThanForty() {
-        PoetFines x = Checks.town(BASE);
+        PoetFines x = Checks.town(Checks.BASE);
         for (int k = 0; k < 43; k++) {
             Checks.due(x, k % 2 == 0 ? 5 : 6, "rewrite", 0, 0, k % 2 == 0 ? 6 : 5);
         }
@@ -218,7 +216,7 @@ public final class UndoTest {
 
     /** "NONE: there is none": no STATUS counts it. */
     private static void nothingToUndo() {
-        for (PoetFines x : new PoetFines[] {new PoetFines(), Checks.town(BASE)}) {
+        for (PoetFines x : new PoetFines[] {new PoetFines(), Checks.town(Checks.BASE)}) {
             String facts = Checks.facts(x);
             Checks.due(x, -1, "undo");
             Checks.due(x, -1, "undo");
@@ -227,7 +225,7 @@ public final class UndoTest {
                 Checks.due(x, 0, "count", status);
             }
         }
-        PoetFines x = Checks.town(BASE);
+        PoetFines x = Checks.town(Checks.BASE);
         Checks.due(x, 1, "years", 1);
         Checks.due(x, 0, "undo");
         Checks.due(x, -1, "undo");
@@ -236,7 +234,7 @@ public final class UndoTest {
 
     /** "ACTS .. are kept as an image": all forty, the oldest of them in the midst of the row. */
     private static void imageOfForty() {
-        PoetFines x = Checks.town(BASE);
+        PoetFines x = Checks.town(Checks.BASE);
         for (int k = 1; k <= 47; k++) {
             Checks.due(x, k, "years", 1);
         }
@@ -295,7 +293,7 @@ public final class UndoTest {
 
     /** "kept as an image, in place of another one". */
     private static void anotherImage() {
-        PoetFines x = Checks.town(BASE);
+        PoetFines x = Checks.town(Checks.BASE);
         for (int k = 0; k < 5; k++) {
             Checks.due(x, 3 * k + 1, "years", 1);
             x.image();
@@ -307,7 +305,7 @@ public final class UndoTest {
             Checks.due(x, 3 * k + 3, "years", 2);
         }
         x.image();
-        Checks.due(x, 0, "state", Checks.load(x, BASE));
+        Checks.due(x, 0, "state", Checks.load(x, Checks.BASE));
         // "the image [is] gone"
         Checks.due(x, false, "restore");
         Checks.due(x, 0, "count", 3);
@@ -329,7 +327,7 @@ public final class UndoTest {
     }
 
     private static void restoreThenUndo() {
-        PoetFines x = Checks.town(BASE);
+        PoetFines x = Checks.town(Checks.BASE);
         x.fill(0, 1);
         x.fill(0, 2);
         x.image();
@@ -368,13 +366,13 @@ public final class UndoTest {
             }
             sameStory(row, x, lived());
         }
-        PoetFines x = Checks.town(BASE);
+        PoetFines x = Checks.town(Checks.BASE);
         Checks.due(x, false, "restore");
         Checks.due(x, -1, "undo");
         for (int status = 12; status < 15; status++) {
             Checks.due(x, 0, "count", status);
         }
-        sameStory("nothing to restore", x, Checks.town(BASE));
+        sameStory("nothing to restore", x, Checks.town(Checks.BASE));
     }
 
     private static void askedLeavesNoTrace() {
@@ -438,7 +436,7 @@ public final class UndoTest {
 
     /** Acts are kept, an image, two are felt; a poet sits; who is third was healed. */
     private static PoetFines lived() {
-        PoetFines x = Checks.town(BASE);
+        PoetFines x = Checks.town(Checks.BASE);
         x.years(2);
         x.feel(0, 1, true);
         x.image();
