@@ -166,6 +166,10 @@ public final class CourtTest {
             safe("hits depth=" + depth + ";", depth - 1);
         }
         safe("hits 0-1;", 9);
+        // no line is less deep than 0 or deeper than 9
+        safe("hits 0-depth;", 9);
+        safe("hits depth<0;", 9);
+        safe("hits 9<depth;", 9);
         safe("hits 1;", -1);
         safe("hits 1-depth;", -1);
         safe("hits depth<1 or 8<depth;", -1);

@@ -121,7 +121,7 @@ public final class FeltTest {
         Checks.due(x, 1, "count", 10);
         Checks.due(x, 1, "truths", 2);
         // the image keeps who felt what in which year, all eight of them
-        x = Checks.town("person 0 3 0 0;".repeat(7) + "person 0 0 3 0;poet 9 0 9 2 9 2 9;fines 0;");
+        x = Checks.town("person 0 3 0 0;".repeat(7) + "person 0 0 0 3;poet 9 0 9 2 9 2 9;fines 0;");
         for (int k = 0; k < 8; k++) {
             Checks.due(x, k + 1, "feel", k, k < 7 ? 3 * k + 1 : 19, k < 7);
         }
@@ -132,7 +132,7 @@ public final class FeltTest {
             for (int k = 0; k < 8; k++) {
                 Checks.due(x, k + 1, "feel", 7 - k, k == wrong ? 2 : 1, true);
             }
-            Checks.due(x, 0, "truths", 2);
+            Checks.due(x, wrong == 0 ? 1 : 0, "truths", 2);
             Checks.due(x, true, "restore");
             Checks.due(x, 8, "count", 10);
             Checks.due(x, 1, "truths", 2);
