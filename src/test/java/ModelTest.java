@@ -15,13 +15,14 @@ public final class ModelTest {
         "game 3", "decades 3", "jailed 2", "into 3", "laureate 1", "plaintiff 1"};
 
     private final Random random;
+    private boolean edge = false;
 
     private ModelTest(long seed) {
         random = new Random(seed);
     }
 
     public static void main(String[] args) {
-        int runs = args.length > 0 ? Integer.parseInt(args[0]) : 150;
+        int runs = args.length > 0 ? Integer.parseInt(args[0]) : 100;
         long first = args.length > 1 ? Long.parseLong(args[1]) : 1;
         for (long seed = first; seed < first + runs; seed++) {
             new ModelTest(seed).run(seed);
@@ -152,21 +153,23 @@ public final class ModelTest {
             topics = 2 + random.nextInt(3);
             text.append("topics ").append(topics).append(random.nextBoolean() ? ";" : " ;\n");
         }
-        int people = random.nextInt(9);
-        int poets = random.nextInt(5);
+        // now and then as many as there can be, each number the least or the greatest
+        edge = random.nextInt(4) == 0;
+        int people = edge ? 8 - random.nextInt(2) : random.nextInt(9);
+        int poets = edge ? 4 - random.nextInt(2) : random.nextInt(5);
         int rich = random.nextBoolean() ? 100 : 12;
         for (int k = 0; k < people; k++) {
-            text.append("person ").append(random.nextInt(rich));
+            text.append("person ").append(some(rich));
             for (int t = 0; t < topics; t++) {
-                text.append(' ').append(random.nextInt(3) == 0 ? random.nextInt(10) : random.nextInt(3));
+                text.append(' ').append(edge || random.nextInt(3) == 0 ? some(10) : random.nextInt(3));
             }
             text.append(';');
         }
         for (int k = 0; k < poets; k++) {
-            text.append("poet ").append(random.nextInt(rich));
-            int lines = 1 + random.nextInt(6);
+            text.append("poet ").append(some(rich));
+            int lines = 1 + some(6);
             for (int l = 0; l < lines; l++) {
-                text.append(' ').append(random.nextInt(topics)).append(' ').append(random.nextInt(10));
+                text.append(' ').append(random.nextInt(topics)).append(' ').append(some(10));
             }
             text.append(';');
         }
@@ -180,6 +183,11 @@ public final class ModelTest {
             text.append("buys ").append(expr(0, new String[0])).append(';');
         }
         return text.length() > 600 ? "person 1 2 3 4;poet 3 0 4;" : text.toString();
+    }
+
+    /** Below this number; on the edge the least or the greatest. */
+    private int some(int many) {
+        return edge ? (many - 1) * random.nextInt(2) : random.nextInt(many);
     }
 
     private String expr(int depth, String[] more) {
